@@ -203,7 +203,8 @@ public final class WordPlaces {
     }
 
     private Words freshWords(int edition) {
-        return freshBook().wordsOf(edition);
+        book.refresh(now);
+        return book.wordsOf(edition);
     }
 
     private static boolean isEdition(int edition) {
@@ -352,8 +353,8 @@ public final class WordPlaces {
     }
 
     private Likeness freshLikeness() {
-        Book fresh = freshBook();
-        likeness.refresh(fresh.wordsOf(0), fresh.wordsOf(1));
+        book.refresh(now);
+        likeness.refresh(book.wordsOf(0), book.wordsOf(1));
         return likeness;
     }
 
@@ -772,7 +773,7 @@ public final class WordPlaces {
     private static final class Rules {
         int count = 0;
         final byte[] fold = new byte[LETTERS];
-        final boolean[] folded = new boolean[LETTERS];
+        final byte[] folded = new byte[LETTERS];
         int foldCount = 0;
         final KeyRow stops = new KeyRow(RULES);
         int stopCount = 0;
@@ -796,7 +797,7 @@ public final class WordPlaces {
             for (int i = 0; i < LETTERS; i++) {
                 fold[i] = (byte) i;
                 rank[i] = (byte) i;
-                folded[i] = false;
+                folded[i] = 0;
             }
             Arrays.fill(memberCounts, 0);
         }
@@ -866,7 +867,7 @@ public final class WordPlaces {
         final byte[] bytes = new byte[BYTES];
         final int[] lengths = new int[EDITIONS * LINES];
         final int[] runs = new int[EDITIONS * LINES];
-        final boolean[] dashed = new boolean[EDITIONS * LINES];
+        final byte[] dashed = new byte[EDITIONS * LINES];
         final int[] lineCounts = new int[EDITIONS];
         final KeyRow slips = new KeyRow(HANDS * PLACES);
 
@@ -892,7 +893,7 @@ public final class WordPlaces {
             System.arraycopy(text, 0, bytes, at * LINE_BYTES, length);
             lengths[at] = length;
             runs[at] = runsIn(text, length);
-            dashed[at] = endsInDash(text, length);
+            dashed[at] = (byte) (endsInDash(text, length) ? 1 : 0);
             lineCounts[edition] = Math.max(lineCounts[edition], i + 1);
         }
 
@@ -925,7 +926,7 @@ public final class WordPlaces {
                 return false;
             }
             int at = edition * LINES + i;
-            return dashed[at] && runs[at + 1] > 0;
+            return dashed[at] != 0 && runs[at + 1] > 0;
         }
 
         /** How many WORDS an EDITION would have with another LINE i, or a further one. */
@@ -937,7 +938,7 @@ public final class WordPlaces {
                 int at = edition * LINES + line;
                 int own = line == i ? runsIn(text, length) : runs[at];
                 sum += own - (dashAhead && own > 0 ? 1 : 0);
-                dashAhead = line == i ? endsInDash(text, length) : dashed[at];
+                dashAhead = line == i ? endsInDash(text, length) : dashed[at] != 0;
             }
             return sum;
         }
@@ -977,7 +978,7 @@ public final class WordPlaces {
         int differentForms = 0;
         final int[] begunIn = new int[LINES];
         final int[] worths = new int[LINES];
-        final boolean[] worthTold = new boolean[FORMS];
+        final byte[] worthTold = new byte[FORMS];
         private final Key key = new Key();
 
         void cutOut(Image image, int edition) {
@@ -985,12 +986,12 @@ public final class WordPlaces {
             Arrays.fill(begunIn, 0);
             boolean goesOn = false;
             for (int line = 0; line < image.lineCount(edition) && line < LINES; line++) {
-                goesOn = cutLine(image, edition, line, goesOn);
+                goesOn = cutLine(image, edition, line, goesOn, image.isCut(edition, line));
             }
         }
 
-        /** Cuts a LINE; goesOn: the latest WORD goes on with the next RUN. */
-        private boolean cutLine(Image image, int edition, int line, boolean goesOn) {
+        /** Cuts a LINE; goesOn: the latest WORD goes on with the next RUN; cutLast: so will this LINE's last. */
+        private boolean cutLine(Image image, int edition, int line, boolean goesOn, boolean cutLast) {
             int at = (edition * LINES + line) * LINE_BYTES;
             int end = at + image.lengths[edition * LINES + line];
             boolean open = goesOn;
@@ -1004,7 +1005,7 @@ public final class WordPlaces {
                         at++;
                     }
                     // The last RUN alone stands right ahead of a last byte.
-                    open = at == end - 1 && image.isCut(edition, line);
+                    open = at == end - 1 && cutLast;
                     endRun(image.rules.fold, open);
                 } else {
                     at++;
@@ -1072,7 +1073,10 @@ public final class WordPlaces {
 
         /** PLACE i of a FORM, or NONE. */
         int placeOf(int f, int i) {
-            return i >= 0 && i < oftenOf(f) ? listed[starts[f] + i] : NONE;
+            if (f < 0 || f >= FORMS || i < 0 || i >= often[f]) {
+                return NONE;
+            }
+            return listed[starts[f] + i];
         }
 
         /** Bits of a FORM's LIST, packed by k. */
@@ -1131,15 +1135,15 @@ public final class WordPlaces {
 
         void clearWorths() {
             Arrays.fill(worths, 0);
-            Arrays.fill(worthTold, false);
+            Arrays.fill(worthTold, (byte) 0);
         }
 
         /** Adds a FORM's worth to the LINES in which it begins, if that is not told already. */
         void addWorths(int f) {
-            if (f < 0 || f >= FORMS || worthTold[f]) {
+            if (f < 0 || f >= FORMS || worthTold[f] != 0) {
                 return;
             }
-            worthTold[f] = true;
+            worthTold[f] = 1;
             int lineSum = linesWith(f);
             int ahead = NONE;
             for (int i = 0; i < oftenOf(f) && lineSum > 0; i++) {
@@ -1306,7 +1310,7 @@ public final class WordPlaces {
                 return false;
             }
             for (int i = 0; i < text.length(); i++) {
-                if (letterAt(i) != text.charAt(i) - 'a') {
+                if (bytes[start + i] != text.charAt(i)) {
                     return false;
                 }
             }
@@ -1401,7 +1405,7 @@ public final class WordPlaces {
             if (from < 0 || from >= LETTERS) {
                 return tokens.fail(1);
             }
-            if (draft.folded[from]) {
+            if (draft.folded[from] != 0) {
                 return tokens.fail(2);
             }
             tokens.advance();
@@ -1415,7 +1419,7 @@ public final class WordPlaces {
             }
             tokens.advance();
             draft.fold[from] = (byte) to;
-            draft.folded[from] = true;
+            draft.folded[from] = 1;
             draft.foldCount++;
             return true;
         }
@@ -1516,7 +1520,7 @@ public final class WordPlaces {
         /** For each level of ( two rows of PLACES: what is worked so far, and the UNIT behind its OP. */
         private final byte[][] sets = new byte[2 * LEVELS][PLACES];
         private final byte[] close = new byte[PLACES];
-        private final boolean[] lineHas = new boolean[LINES];
+        private final byte[] lineHas = new byte[LINES];
         int count = 0;
         final int[] places = new int[PLACES];
         final int[] lines = new int[PLACES];
@@ -1639,7 +1643,8 @@ public final class WordPlaces {
                     return tokens.fail(1);
                 }
             }
-            readFolded();
+            tokens.readInto(key);
+            key.map(rules.fold);
             tokens.advance();
             Arrays.fill(target, (byte) 0);
             if (rooted) {
@@ -1672,7 +1677,8 @@ public final class WordPlaces {
                 return tokens.fail(1);
             }
             for (int behind = 0; behind < TAPE_BYTES && tokens.kind == Tokens.WORD; behind++) {
-                readFolded();
+                tokens.readInto(key);
+                key.map(rules.fold);
                 keepFollowed(target, behind);
                 tokens.advance();
             }
@@ -1691,11 +1697,6 @@ public final class WordPlaces {
                     target[p] = 0;
                 }
             }
-        }
-
-        private void readFolded() {
-            tokens.readInto(key);
-            key.map(rules.fold);
         }
 
         private void mark(byte[] target, long high, long low) {
@@ -1747,14 +1748,14 @@ public final class WordPlaces {
 
         /** Marks the PLACES whose LINE has one of the row's. */
         private void markSameLine(byte[] right, int size) {
-            Arrays.fill(lineHas, false);
+            Arrays.fill(lineHas, (byte) 0);
             for (int p = 0; p < size && p < PLACES; p++) {
                 if (right[p] == 1) {
-                    lineHas[words.lines[p]] = true;
+                    lineHas[words.lines[p]] = 1;
                 }
             }
             for (int p = 0; p < size && p < PLACES; p++) {
-                close[p] = (byte) (lineHas[words.lines[p]] ? 1 : 0);
+                close[p] = lineHas[words.lines[p]];
             }
         }
 
