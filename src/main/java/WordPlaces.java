@@ -1798,7 +1798,6 @@ public final class WordPlaces {
                 return;
             }
             Arrays.fill(spared, 0L);
-            Arrays.fill(here, 0);
             Arrays.fill(behind, 0);
             for (int p = Math.min(first.count, PLACES) - 1; p >= 0; p--) {
                 fillRow(p, first.forms[p], second);

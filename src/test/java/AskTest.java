@@ -50,6 +50,9 @@ public final class AskTest {
         asked(x, "rex", "0 6");
         asked(x, "root ras", "0 4 6");
         asked(x, "\"naar rax\"", "5");
+        x = Due.book("a b a b");
+        Due.put(x, "a b a").right(0, 0);
+        asked(x, "\"a b\"", "0");
         String twenty = "abcdefghijklmnopqrst";
         asked(Due.book(twenty + "uv"), twenty + "xyz", "0");
     }
@@ -140,6 +143,8 @@ public final class AskTest {
         fault("near", 1, 0);
         fault("or", 1, 0);
         fault("a b", 1, 2);
+        fault("a xr b", 1, 2);
+        fault("a ox b", 1, 2);
         fault("a root", 1, 2);
         fault("a or", 1, 4);
         fault("a or ", 1, 5);

@@ -93,6 +93,14 @@ public final class BookTest {
         due.is("the last WORD's letters", Due.letters(x, x.word(0, 299, 0)).length(), 2);
         due.is("the first of the 301 in edition 1", Due.line(x, 1, "b b"), 0);
         due.is("count(1)", x.count(1), 302);
+        x = new WordPlaces();
+        for (int i = 0; i < 10; i++) {
+            Due.line(x, 0, Due.times("a ", 29) + (i < 9 ? "a" : "a-"));
+        }
+        due.is("300 WORDS", x.edition(0, 1), 300);
+        due.is("no WORD", Due.line(x, 0, "  -"), 10);
+        due.is("the - ahead of a LINE without a RUN cuts none", Due.line(x, 0, "b"), -3);
+        due.is("but ahead of one with a RUN", put(x, "b").right(0, 10), 300);
     }
 
     private static WordPlaces put(WordPlaces x, String text) {

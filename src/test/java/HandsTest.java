@@ -51,6 +51,7 @@ public final class HandsTest {
         due.is("no letters", Due.slip(x, 0, 3, ""), -4);
         due.is("two WORDS", Due.slip(x, 0, 3, "aq ua"), -4);
         due.is("the TAPE is empty by -4", x.count(5), 0);
+        due.is("a blank ahead", Due.slip(x, 0, 3, " aqua"), -4);
         due.is("a blank behind", Due.slip(x, 0, 3, "aqua "), -4);
         due.is("21 letters", Due.slip(x, 0, 3, Due.times("a", 21)), -4);
         due.is("20 letters", Due.slip(x, 0, 3, Due.times("a", 20)), 0);
@@ -72,6 +73,14 @@ public final class HandsTest {
         due.is("hand(1, 2)", x.hand(1, 2), 2);
         due.is("copied where there is no PLACE", x.copied(0, 1), 1);
         due.is("count(6)", x.count(6), 3);
+        Due.slip(x, 2, 0, "q");
+        Due.slip(x, 3, 0, "q");
+        due.is("copied at PLACE 0", x.copied(2, 3), 1);
+        x = Due.book("a b c");
+        Due.slip(x, 0, 2, "c");
+        Due.put(x, "a b").right(0, 0);
+        due.is("the PLACE behind the last is wrong", x.hand(0, 1), 1);
+        due.is("and it is none without a SLIP", x.hand(0, 2), 2);
         x = Due.book("vb");
         Due.slip(x, 0, 0, "ub");
         due.is("wrong", x.hand(0, 1), 1);
@@ -158,6 +167,12 @@ public final class HandsTest {
         due.is("begins 10", Due.put(x, "abcdefghij").begins(), 4);
         due.is("begins 11", Due.put(x, "abcdefghijk").begins(), 3);
         due.is("begins 9", Due.put(x, "abcdefghi").begins(), 5);
+        due.is("begins 9 and blanks", Due.put(x, "abcdefghi" + Due.times(" ", 30)).begins(), 5);
+        x = Due.book("abcdefghij abcdefghik", "abcdefghijabcdefghij abcdefghijabcdefghik");
+        due.is("begins by the tenth letter", Due.put(x, "abcdefghij").begins(), 3);
+        due.is("begins by the tenth letter", Due.put(x, "abcdefghik").begins(), 1);
+        due.is("begins by the twentieth letter", Due.put(x, "abcdefghijabcdefghij").begins(), 1);
+        due.is("begins by the twentieth letter", Due.put(x, "abcdefghijabcdefghik").begins(), 1);
     }
 
     private static String printed(WordPlaces x) {

@@ -8,6 +8,7 @@ public final class ListsTest {
         sharesTold();
         sharesOfBlankLines();
         likeness();
+        likenessOfLongOnes();
         due.end();
     }
 
@@ -137,5 +138,25 @@ public final class ListsTest {
         due.is("300 and 300", x.alike(), 300);
         due.is("matched(299)", x.matched(299), 299);
         due.is("matched(300)", x.matched(300), -1);
+    }
+
+    /** Two EDITIONS of 300 WORDS of a few letters, told by a rule, against the model. */
+    private static void likenessOfLongOnes() {
+        WordPlaces x = new WordPlaces();
+        Model m = new Model();
+        int state = 7;
+        for (int i = 0; i < 20; i++) {
+            StringBuilder text = new StringBuilder();
+            for (int j = 0; j < 30; j++) {
+                state = state * 1103515245 + 12345;
+                text.append((char) ('a' + (state >>> 16) % 5)).append(' ');
+            }
+            Due.line(x, i % 2, text.toString());
+            m.addLine(i % 2, text.toString());
+        }
+        due.is("alike", x.alike(), m.alike());
+        for (int p = 0; p < 300; p++) {
+            due.is("matched(" + p + ")", x.matched(p), m.matched(p));
+        }
     }
 }

@@ -246,7 +246,7 @@ final class Model {
         return edition0(e) ? addLine(e, take()) : -2;
     }
 
-    private int addLine(int e, String text) {
+    int addLine(int e, String text) {
         List<String> next = new ArrayList<>(lines.get(e));
         next.add(text);
         int answer = put(e, next, text);

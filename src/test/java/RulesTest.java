@@ -100,6 +100,8 @@ public final class RulesTest {
         fault(";", 1, 0);
         fault("halt a;", 1, 0);
         fault("stops a;", 1, 0);
+        fault("xtop a;", 1, 0);
+        fault("stox a;", 1, 0);
         fault("7;", 1, 0);
         fault("  Stop a;", 1, 2);
         fault("stop a-b;", 1, 6);
