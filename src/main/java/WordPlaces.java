@@ -30,6 +30,7 @@ public final class WordPlaces {
     private static final int IMAGES = 3;
     private static final int SHARES = 8;
     private static final int BEST_K = 10;
+    private static final int PLACES_A_ROW = 6;
     private static final int LEAST_ROWS = 5;
     private static final int MOST_ROWS = 100;
     private static final int SLOTS = 4;
@@ -544,7 +545,7 @@ public final class WordPlaces {
         for (int i = 0; i < book.size; i++) {
             int f = book.order[i];
             if (words.often[f] > 0 && !now.rules.isStop(book.forms.high[f], book.forms.low[f])) {
-                int rows = 1 + (words.often[f] + 5) / 6;
+                int rows = 1 + (words.often[f] + PLACES_A_ROW - 1) / PLACES_A_ROW;
                 int used = row % n;
                 if (used > 0 && used + rows > n) {
                     row += n - used;
