@@ -369,7 +369,8 @@ public final class WordPlaces {
         if (!isOneWord(length)) {
             return BAD;
         }
-        readKey(0, length);
+        readLetters(0, length);
+        // Kept as it was written, since later RULES fold a SLIP's letters anew.
         now.slips.put(Image.slipAt(h, p), key.high, key.low);
         return isWrong(freshWords(0), h, p) ? 0 : 1;
     }
@@ -390,23 +391,24 @@ public final class WordPlaces {
         return true;
     }
 
-    /** Makes the key of the letters that the TAPE has from one byte on up to another, folded. */
-    private void readKey(int from, int to) {
+    private void readFolded(int from, int to) {
+        readLetters(from, to);
+        key.map(now.rules.fold);
+    }
+
+    /** Makes the key of the letters that the TAPE has from one byte on up to another. */
+    private void readLetters(int from, int to) {
         key.clear();
         for (int i = from; i < to && i < TAPE_BYTES; i++) {
             if (isLetter(tape[i])) {
                 key.add(tape[i] - 'a');
             }
         }
-        key.map(now.rules.fold);
     }
 
     private boolean isWrong(Words words, int h, int p) {
         int at = Image.slipAt(h, p);
-        if (p >= words.count) {
-            return true;
-        }
-        return !words.keys.holds(p, now.slips.high[at], now.slips.low[at]);
+        return p >= words.count || !words.keys.holds(p, now.slipHigh(at), now.slipLow(at));
     }
 
     public int hand(int h, int what) {
@@ -437,13 +439,15 @@ public final class WordPlaces {
         Words words = freshWords(0);
         int sum = 0;
         for (int p = 0; p < PLACES; p++) {
-            int other = Image.slipAt(b, p);
-            boolean same = now.slips.holds(Image.slipAt(a, p), now.slips.high[other], now.slips.low[other]);
-            if (same && now.hasSlip(a, p) && isWrong(words, a, p)) {
+            if (now.hasSlip(a, p) && isWrong(words, a, p) && areAlike(Image.slipAt(a, p), Image.slipAt(b, p))) {
                 sum++;
             }
         }
         return sum;
+    }
+
+    private boolean areAlike(int at, int other) {
+        return now.slipHigh(at) == now.slipHigh(other) && now.slipLow(at) == now.slipLow(other);
     }
 
     // Ranks.
@@ -461,7 +465,7 @@ public final class WordPlaces {
                 i++;
             }
             if (i > from) {
-                readKey(from, i);
+                readFolded(from, i);
                 words.addWorths(book.forms.find(book.size, key.high, key.low));
             }
         }
@@ -505,7 +509,7 @@ public final class WordPlaces {
     public int begins() {
         int length = takeTape();
         Book fresh = freshBook();
-        readKey(0, length);
+        readFolded(0, length);
         begunFirst = 0;
         begunCount = 0;
         // A key keeps twenty letters alone, but no FORM begins with more.
@@ -870,6 +874,7 @@ public final class WordPlaces {
         final int[] runs = new int[EDITIONS * LINES];
         final byte[] dashed = new byte[EDITIONS * LINES];
         final int[] lineCounts = new int[EDITIONS];
+        /** SLIPS as they were written; 0 where there is none. */
         final KeyRow slips = new KeyRow(HANDS * PLACES);
 
         void copyFrom(Image other) {
@@ -951,6 +956,15 @@ public final class WordPlaces {
         /** A SLIP has a letter at least, so its key is never 0. */
         boolean hasSlip(int h, int p) {
             return !slips.holds(slipAt(h, p), 0, 0);
+        }
+
+        /** The first half of a SLIP's FORM, by the RULES that stand now. */
+        long slipHigh(int at) {
+            return at >= 0 && at < slips.high.length ? Key.mapped(slips.high[at], rules.fold) : 0;
+        }
+
+        long slipLow(int at) {
+            return at >= 0 && at < slips.low.length ? Key.mapped(slips.low[at], rules.fold) : 0;
         }
 
         int slipCount() {

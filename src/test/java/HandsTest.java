@@ -6,6 +6,7 @@ public final class HandsTest {
     public static void main(String[] args) {
         slips();
         slipsLater();
+        slipsAnew();
         ranks();
         beginnings();
         pages();
@@ -86,9 +87,57 @@ public final class HandsTest {
         due.is("wrong", x.hand(0, 1), 1);
         Due.rules(x, "fold v to u;");
         due.is("right now", x.hand(0, 1), 0);
-        Due.slip(x, 0, 0, "vb");
+    }
+
+    /** A SLIP's letters are folded as they were written, by the RULES that stand when they are asked for. */
+    private static void slipsAnew() {
+        WordPlaces x = Due.book("a c", "a");
+        Due.slip(x, 0, 0, "a");
+        Due.slip(x, 1, 0, "b");
+        Due.slip(x, 2, 0, "c");
+        Due.slip(x, 3, 0, "d");
+        due.are("none folded", wrongs(x), "0111");
+        Due.rules(x, "fold a to b;");
+        due.are("folded with what stands there", wrongs(x), "0011");
+        Due.rules(x, "fold c to d;");
+        due.are("the folds ahead are gone", wrongs(x), "0111");
+        due.is("alike by a fold told later", x.copied(2, 3), 1);
+        due.is("wrong, but not alike", x.copied(1, 3), 0);
+        due.is("one of them right", x.copied(0, 3), 0);
+        due.is("each letter once", Due.rules(x, "fold b to c; fold c to b;"), 2);
+        due.are("and not on to where its letter goes", wrongs(x), "0111");
+        due.is("two changed for one another", x.copied(1, 2), 0);
+        Due.rules(x, "fold b to a; fold c to b;");
+        due.are("b is a now, c is b", wrongs(x), "0011");
+        x.keep(0);
+        Due.put(x, "b").right(0, 0);
+        due.are("b is a, which two have not", wrongs(x), "0011");
         x.rules();
-        due.is("a SLIP is the FORM that was written", x.hand(0, 1), 1);
+        due.are("by no RULES the letters as they were written", wrongs(x), "1011");
+        Due.slip(x, 1, 0, "z");
+        due.are("written anew", wrongs(x), "1111");
+        x.back(0);
+        due.are("by the RULES that are back", wrongs(x), "0011");
+        x = Due.book("vinum");
+        Due.rules(x, "fold v to u;");
+        due.is("written as folded", Due.slip(x, 0, 0, "uinum"), 1);
+        due.is("written as it stands", Due.slip(x, 1, 0, "vinum"), 1);
+        x.rules();
+        due.are("unfolded again", wrongs(x), "1000");
+        due.is("nothing wrong alike", x.copied(0, 1), 0);
+        String letters = Due.times("v", 20);
+        Due.put(x, letters).right(0, 0);
+        due.is("wrong in its twentieth letter", Due.slip(x, 0, 0, Due.times("v", 19) + "u"), 0);
+        Due.rules(x, "fold u to v;");
+        due.are("the twentieth letter is folded later", wrongs(x), "0100");
+    }
+
+    private static String wrongs(WordPlaces x) {
+        StringBuilder text = new StringBuilder();
+        for (int h = 0; h < 4; h++) {
+            text.append(x.hand(h, 1));
+        }
+        return text.toString();
     }
 
     private static String ranking(WordPlaces x) {

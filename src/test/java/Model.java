@@ -625,12 +625,18 @@ final class Model {
         if (!text.matches("[a-z]{1,20}")) {
             return -4;
         }
-        slips.get(h).put(p, told.form(text));
+        slips.get(h).put(p, text);
         return wrong(words(0), h, p) ? 0 : 1;
     }
 
     private boolean wrong(List<Word> words, int h, int p) {
-        return p >= words.size() || !words.get(p).form.equals(slips.get(h).get(p));
+        return p >= words.size() || !words.get(p).form.equals(slipForm(h, p));
+    }
+
+    /** A SLIP is a FORM: made anew by the RULES that stand now. */
+    private String slipForm(int h, int p) {
+        String text = slips.get(h).get(p);
+        return text == null ? "" : told.form(text);
     }
 
     int hand(int h, int what) {
@@ -656,7 +662,7 @@ final class Model {
         }
         List<Word> words = words(0);
         return (int) slips.get(a).keySet().stream()
-            .filter(p -> wrong(words, a, p) && slips.get(a).get(p).equals(slips.get(b).get(p))).count();
+            .filter(p -> wrong(words, a, p) && slipForm(a, p).equals(slipForm(b, p))).count();
     }
 
     // Ranks, beginnings, PAGES.
