@@ -102,6 +102,7 @@ public final class HandsTest {
         Due.rules(x, "fold c to d;");
         due.are("the folds ahead are gone", wrongs(x), "0111");
         due.is("alike by a fold told later", x.copied(2, 3), 1);
+        due.is("whoever is told first", x.copied(3, 2), 1);
         due.is("wrong, but not alike", x.copied(1, 3), 0);
         due.is("one of them right", x.copied(0, 3), 0);
         due.is("each letter once", Due.rules(x, "fold b to c; fold c to b;"), 2);
@@ -130,6 +131,13 @@ public final class HandsTest {
         due.is("wrong in its twentieth letter", Due.slip(x, 0, 0, Due.times("v", 19) + "u"), 0);
         Due.rules(x, "fold u to v;");
         due.are("the twentieth letter is folded later", wrongs(x), "0100");
+        String most = Due.times("v", 19);
+        Due.slip(x, 2, 0, most + "w");
+        Due.slip(x, 3, 0, most + "x");
+        due.is("unlike in the twentieth letter", x.copied(2, 3), 0);
+        Due.rules(x, "fold w to x;");
+        due.is("alike in it by a fold told later", x.copied(2, 3), 1);
+        due.is("whoever is told first", x.copied(3, 2), 1);
     }
 
     private static String wrongs(WordPlaces x) {
