@@ -1,0 +1,17 @@
+import java.io.IOException;
+import java.nio.file.Path;
+
+/** The boundary cases of the document, sentence by sentence, held against ../shared/DOC.md. */
+public final class BoundariesTest {
+    public static void main(String[] args) throws IOException {
+        Sentences s = new Sentences("BoundariesTest", Path.of("../shared/DOC.md"));
+        new TapeBoundaries(s).all();
+        new RulesBoundaries(s).all();
+        new BookBoundaries(s).all();
+        new AskBoundaries(s).all();
+        new ListBoundaries(s).all();
+        new HandBoundaries(s).all();
+        new SlotBoundaries(s).all();
+        s.end();
+    }
+}
