@@ -15,6 +15,7 @@ final class AskBoundaries {
         kindsOfUnits();
         noWords();
         words();
+        lastPlaces();
         roots();
         behindOneAnother();
         near();
@@ -127,6 +128,22 @@ final class AskBoundaries {
         asked(new WordPlaces(), "a", "");
     }
 
+    /** EDITIONS have 300 WORDS at most; each OP and UNIT at the last two PLACES. */
+    private void lastPlaces() {
+        s.of("II", "UNIT: WORD | root WORD | \" WORD {WORD} \" | ( ASK ). OP: near N | before N | far N | and | but | or;");
+        WordPlaces x = Sentences.ofLetters(Due.times("c", 298) + "ab");
+        Due.rules(x, "root a of b;");
+        String[][] due = {{"b", "299"}, {"root a", "298 299"}, {"\"b\"", "299"}, {"\"a b\"", "298"}, {"\"b a\"", ""}, {"\"d\"", ""},
+            {"(b)", "299"}, {"(d)", ""}, {"((a or b))", "298 299"}, {"b near 1 a", "299"}, {"a near 1 b", "298"}, {"b near 50 b", ""},
+            {"a before 1 b", "298"}, {"b before 50 a", ""}, {"b far 1 a", ""}, {"b far 1 b", "299"}, {"b and a", "299"},
+            {"a and b", "298"}, {"b but a", ""}, {"a but b", ""}, {"b but d", "299"}, {"b and d", ""}, {"d or b", "299"},
+            {"b or d", "299"}, {"a or b", "298 299"}, {"d and b", ""}};
+        for (String[] one : due) {
+            asked(x, one[0], one[1]);
+        }
+        s.is("all but the first LINES", Due.ask(x, 0, "c but b"), 270);
+    }
+
     private void roots() {
         s.of("II", "root: those of all FORMS of the first ROOT that is told so (its own FORM, too, and those behind of), STOPS as"
             + " well; none without such a ROOT.");
@@ -142,6 +159,12 @@ final class AskBoundaries {
         asked(x, "\"lex legis\" or root rex", "0 1 2 3 4 5 7");
         Due.rules(x, "root lex of lex lex legis legis;");
         asked(x, "root lex", "5 6");
+        Due.rules(x, "root rex of regis;root lex of legis;");
+        asked(x, "root lex", "5 6");
+        asked(x, "root rex", "0 1 7");
+        Due.rules(x, "root rex of lex;");
+        asked(x, "root lex", "");
+        asked(x, "root rex", "0 5 7");
         x.rules();
         asked(x, "root rex", "");
         StringBuilder many = new StringBuilder();
@@ -176,6 +199,13 @@ final class AskBoundaries {
         asked(y, "\"" + Due.times("a ", 198) + "\"", "0 1");
         y = Sentences.ofLetters(Due.times("a", 198));
         asked(y, "\"" + Due.times("a ", 199) + "\"", "");
+        y = Due.book("a b", "a b c");
+        Due.put(y, "a").right(0, 1);
+        asked(y, "\"a b\"", "0");
+        asked(y, "\"b a\"", "1");
+        asked(y, "\"a b a c\"", "");
+        Due.put(y, "").right(0, 1);
+        asked(y, "\"b a\"", "");
     }
 
     private void near() {
@@ -195,6 +225,11 @@ final class AskBoundaries {
         asked(Due.book("a b"), "zz near 50 a", "");
         asked(Due.book("a b c"), "(a or b) near 1 (b or c)", "0 1");
         asked(Sentences.ofLetters(Due.times("a", 300)), "a near 1 a but zz near 50 a near 1 a", allUpTo(300));
+        WordPlaces x = Due.book("a b c d e f");
+        asked(x, "(a or c or e) near 1 d", "2 4");
+        asked(x, "(a or c or e) near 1 f", "4");
+        asked(x, "(a or b or e) near 1 c near 1 a", "1");
+        asked(x, "(a or d) near 1 e or (c near 1 a) or (b near 2 d)", "1 3");
     }
 
     private static String allUpTo(int n) {

@@ -137,6 +137,11 @@ final class BookBoundaries {
         formsAre("az za", " az- za");
         formsAre(Due.times("a ", 30).trim(), Due.times("a ", 30));
         formsAre(Due.times("a ", 30).trim(), Due.times("-a", 30));
+        formsAre("a b", Due.times(" ", 59) + "a", "b");
+        formsAre(Due.times("a ", 30).trim() + " b", Due.times("-a", 30), "b-");
+        WordPlaces x = Due.book("abc d", "b");
+        Due.put(x, "a").right(0, 0);
+        s.are("of a LINE that was longer", Due.allForms(x), "a b");
     }
 
     private void cutIs(String forms, String cut, String... lines) {
@@ -147,6 +152,16 @@ final class BookBoundaries {
             text.append(x.word(0, p, 3));
         }
         s.are("CUT ones of " + String.join("/", lines), text.toString(), cut);
+        WordPlaces y = Due.book("q", "q-", "q");
+        for (String line : lines) {
+            Due.line(y, 1, line);
+        }
+        StringBuilder second = new StringBuilder();
+        for (int p = 0; p < y.edition(1, 1); p++) {
+            second.append(y.word(1, p, 3));
+        }
+        s.are("CUT ones in EDITION 1", second.toString(), cut);
+        s.is("count(1)", y.count(1), 2 + cut.length());
     }
 
     private void cutRuns() {
@@ -171,6 +186,16 @@ final class BookBoundaries {
         WordPlaces x = Due.book("a-");
         Due.line(x, 1, "b");
         s.is("the other EDITION's LINE is not the next", x.word(0, 0, 3), 0);
+        for (int i = 1; i < 40; i++) {
+            Due.line(x, 0, "a-");
+        }
+        s.is("nor behind the 40th", x.word(0, 0, 0), 0);
+        s.is("whose letters end", x.form(0, 0), 20);
+        Due.put(x, "").right(0, 38);
+        s.is("WORDS", x.edition(0, 1), 2);
+        s.is("the 40th has no next one", x.word(0, 1, 3), 0);
+        s.is("its letter", x.form(x.word(0, 1, 0), 0), 1);
+        s.is("EDITION 1's WORD", x.edition(1, 1), 1);
     }
 
     private void cutFurther() {
@@ -351,6 +376,15 @@ final class BookBoundaries {
         s.is("edition(0, 1)", x.edition(0, 1), 300);
         s.is("FORMS", x.forms(), 2);
         s.is("EDITION 1 takes others", Due.line(x, 1, "c"), 0);
+        for (int i = 0; i < 10; i++) {
+            Due.line(x, 1, Due.times("a ", 29) + "a-");
+        }
+        s.is("301 RUNS of EDITION 1, nine CUT", x.edition(1, 1), 292);
+        s.is("309 RUNS, ten CUT", Due.line(x, 1, Due.times("a ", 10)), -3);
+        s.is("308 RUNS less one, ten CUT", Due.line(x, 1, Due.times("a ", 9)), 11);
+        s.is("300 in EDITION 1", x.edition(1, 1), 300);
+        s.is("no more there", Due.line(x, 1, "a"), -3);
+        Due.put(x, "c").right(1, 0);
         Due.put(x, "b-").right(0, 10);
         Due.put(x, "-c").right(0, 11);
         s.is("301 RUNS, one CUT", x.edition(0, 1), 300);
@@ -393,6 +427,14 @@ final class BookBoundaries {
         s.is("the LINE behind it without a RUN", Due.put(x, "-").right(0, 1), 4);
         s.are("no RUN is CUT", Due.allForms(x), "a b e f");
         s.is("the other EDITION has no LINES", x.right(1, 0), -2);
+        x = Due.book("a b-", "c d-", "e");
+        s.is("two are CUT", x.word(0, 1, 3) + x.word(0, 2, 3), 2);
+        Due.put(x, "a b").right(0, 0);
+        s.is("one is not", x.word(0, 1, 3), 0);
+        s.is("nor what stands at the other's PLACE", x.word(0, 2, 3), 0);
+        s.is("which stands behind it", x.word(0, 3, 3), 1);
+        Due.put(x, "").right(0, 2);
+        s.is("and is none now", x.word(0, 3, 3), 0);
     }
 
     private void rightOfNone() {
@@ -461,11 +503,11 @@ final class BookBoundaries {
         s.is("one WORD", x.edition(0, 1), 1);
         s.are("FORMS", Due.allForms(x), "abacadae abacadaeab");
         for (int b = 0; b < 256; b++) {
-            WordPlaces y = new WordPlaces();
-            y.row(0, 0, 1);
-            y.write(0, 0, b);
+            WordPlaces one = new WordPlaces();
+            one.row(0, 0, 1);
+            one.write(0, 0, b);
             boolean good = b >= 'a' && b <= 'z' || b == 32 || b == 45;
-            s.is("lineOf of byte " + b, y.lineOf(0, 0), good ? 0 : -4);
+            s.is("lineOf of byte " + b, one.lineOf(0, 0), good ? 0 : -4);
         }
         x = new WordPlaces();
         x.row(0, 0, 0);
@@ -476,6 +518,13 @@ final class BookBoundaries {
             s.is("60 bytes", x.lineOf(0, 1), i);
         }
         s.is("330 WORDS", x.lineOf(0, 1), -3);
+        WordPlaces y = new WordPlaces();
+        y.row(0, 0, 60);
+        writeAll(y, 0, Due.times(" ", 58) + "a-");
+        y.lineOf(0, 0);
+        y.lineOf(0, 0);
+        s.is("60 bytes, the last a - right behind a RUN", y.edition(0, 1), 1);
+        s.is("which is CUT", y.word(0, 0, 3), 1);
         for (int i = 11; i < 40; i++) {
             s.is("LINE " + i, x.lineOf(0, 0), i);
         }

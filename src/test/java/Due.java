@@ -35,6 +35,9 @@ final class Due {
     /** Puts a text behind what the TAPE has; the last feed() brings too much, which end() takes away. */
     static WordPlaces put(WordPlaces x, String text) {
         int ahead = x.count(5);
+        if (ahead + text.length() > 400) {
+            throw new IllegalArgumentException("a TAPE of more than 400 bytes: " + text);
+        }
         for (int i = 0; i < text.length(); i += 20) {
             int[] numbers = new int[5];
             for (int j = 0; j < 20; j++) {

@@ -62,6 +62,7 @@ final class HandBoundaries {
         s.is("slip(3, 0)", Due.slip(x, 3, 0, "a"), 1);
         s.is("slip(2, 299)", Due.slip(x, 2, 299, "b"), 0);
         s.is("hand(3, 2)", x.hand(3, 2), 298);
+        s.is("count(6)", x.count(6), 3);
     }
 
     private void slipRightOrWrong() {
@@ -337,6 +338,11 @@ final class HandBoundaries {
         s.is("in EDITION 1", Due.put(x, "b").rank(1), 1);
         s.is("its LINE's worth", x.ranked(0, 1), 1000);
         s.is("no WORDS", Due.put(x, " .,A5").rank(1), 0);
+        s.is("one in the last byte", Due.put(x, Due.times(".", 399) + "b").rank(1), 1);
+        x = Sentences.full();
+        s.is("the first FORM of 600", Due.put(x, Sentences.unlike(0)).rank(0), 1);
+        s.is("the last FORM of 600", Due.put(x, Sentences.unlike(599)).rank(1), 1);
+        s.is("its LINE", x.ranked(0, 0), 19);
     }
 
     private void rankOfNone() {
@@ -419,6 +425,9 @@ final class HandBoundaries {
             beginsIs(x, part.substring(0, size - 1), "0 1");
         }
         beginsIs(x, TWENTY + "u", "");
+        beginsIs(x, TWENTY + "   u", "");
+        beginsIs(x, TWENTY + "u" + Due.times(".", 300), "");
+        beginsIs(x, TWENTY + Due.times(".", 300), "0");
         beginsIs(x, Due.times("a", 400), "");
         x = Sentences.full();
         s.is("all 600", x.begins(), 600);
@@ -437,6 +446,10 @@ final class HandBoundaries {
         beginsIs(x, "A-5", "0 1 2");
         beginsIs(x, TWENTY.substring(0, 19) + Due.times(".", 300) + "t", "0");
         beginsIs(x, "`{b", "");
+        beginsIs(x, Due.times(".", 399) + "b", "");
+        beginsIs(x, Due.times(".", 399) + "u", "1 2");
+        beginsIs(x, TWENTY + Due.times(".", 380), "0");
+        beginsIs(x, TWENTY + Due.times(".", 379) + "u", "");
         for (int b = 0; b < 256; b++) {
             boolean letter = b >= 'a' && b <= 'z';
             WordPlaces y = Due.book("abc");

@@ -135,6 +135,12 @@ final class ListBoundaries {
         }
         s.is("300 by 0", Sentences.ofLetters(Due.times("a", 300)).pack(0, 0, -1), 300);
         s.is("two GAPS of 150 by 6 or 7", Sentences.ofLetters((Due.times("b", 149) + "a").repeat(2)).pack(0, 0, -1), 18);
+        for (int k = 0; k <= 6; k++) {
+            // GAPS of 2 to the k, and of twice that: the least is by this k alone.
+            WordPlaces y = Sentences.ofLetters(Due.times("b", (1 << k) - 1) + "a" + Due.times("b", (2 << k) - 1) + "a");
+            s.is("two by " + k, y.pack(0, 0, -1), 2 * k + 3);
+            s.is("by more", y.pack(0, 0, k + 1), 2 * k + 4);
+        }
         WordPlaces x = Due.book("a");
         s.is("no PLACES", x.pack(1, 0, -1), 0);
     }
@@ -296,6 +302,7 @@ final class ListBoundaries {
         s.is("shares(1, 8)", x.shares(1, 8), 3);
         x = Sentences.ofLetters(Due.times("a", 300));
         s.is("300 for one", x.shares(0, 1), 300);
+        s.is("299 and one", Sentences.ofLetters(Due.times("a", 299)).shares(0, 1), 299);
         s.is("300 for eight", x.shares(0, 8), 60);
         s.is("no WORDS", Due.book("").shares(0, 1), 0);
         s.is("no LINES", new WordPlaces().shares(1, 8), 0);
@@ -404,6 +411,40 @@ final class ListBoundaries {
         likenessIs("abab", "baba", 3, "-1 0 1 2");
         likenessIs("cab", "abc", 2, "-1 0 1");
         likenessIs("abcd", "badc", 2, "-1 0 -1 2");
+        for (int letters = 2; letters <= 26; letters += 8) {
+            StringBuilder first = new StringBuilder();
+            StringBuilder second = new StringBuilder();
+            int state = letters;
+            for (int i = 0; i < 300; i++) {
+                state = state * 1103515245 + 12345;
+                first.append((char) ('a' + (state >>> 16) % letters));
+                state = state * 1103515245 + 12345;
+                second.append((char) ('a' + (state >>> 16) % letters));
+            }
+            likenessOfTable(first.toString(), second.toString());
+        }
+    }
+
+    /** The most pairs that are left behind each two PLACES, and what is told from the front by them. */
+    private void likenessOfTable(String first, String second) {
+        int[][] most = new int[301][301];
+        for (int p = 299; p >= 0; p--) {
+            for (int q = 299; q >= 0; q--) {
+                boolean like = first.charAt(p) == second.charAt(q);
+                most[p][q] = Math.max(like ? 1 + most[p + 1][q + 1] : 0, Math.max(most[p + 1][q], most[p][q + 1]));
+            }
+        }
+        StringBuilder want = new StringBuilder();
+        int q = 0;
+        for (int p = 0; p < 300; p++) {
+            while (q < 300 && first.charAt(p) != second.charAt(q) && most[p + 1][q] < most[p][q]) {
+                q++;
+            }
+            boolean taken = q < 300 && first.charAt(p) == second.charAt(q);
+            want.append(p > 0 ? " " : "").append(taken ? q : -1);
+            q += taken ? 1 : 0;
+        }
+        likenessIs(first, second, most[0][0], want.toString());
     }
 
     private void howManyMatched() {
@@ -422,6 +463,13 @@ final class ListBoundaries {
         s.is("300 and 300, all like", x.alike(), 300);
         Due.put(x, Due.times("c ", 30)).right(1, 0);
         s.is("270", x.alike(), 270);
+        x = Due.book("a b c");
+        Due.line(x, 1, "a b c");
+        s.is("three", x.alike(), 3);
+        Due.put(x, "a b").right(1, 0);
+        s.is("two now", x.alike(), 2);
+        Due.put(x, "").right(1, 0);
+        s.is("none now", x.alike(), 0);
     }
 
     private void placeMatched() {
@@ -441,6 +489,13 @@ final class ListBoundaries {
         s.is("behind back()", x.matched(0), 0);
         Due.line(x, 1, "a");
         s.is("behind line()", x.matched(1), 1);
+        x = Due.book("a b");
+        Due.line(x, 1, "b a");
+        likenessIs(x, "a b/b a", 1, "-1 0");
+        Due.put(x, "x a b").right(1, 0);
+        likenessIs(x, "a b/x a b", 2, "1 2");
+        Due.put(x, "b a").right(1, 0);
+        likenessIs(x, "a b/b a again", 1, "-1 0");
         x = Sentences.ofLetters("a" + Due.times("c", 299));
         Sentences.addLetters(x, 1, Due.times("b", 299) + "a");
         s.is("the first of 300", x.matched(0), 299);

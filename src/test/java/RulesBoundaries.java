@@ -18,6 +18,7 @@ final class RulesBoundaries {
         oneLetter();
         foldedOnce();
         wordsAreForms();
+        foldedAtEachPlace();
         firstTwentyLetters();
         stopsAndRoots();
         lettersFirst();
@@ -156,6 +157,36 @@ final class RulesBoundaries {
         s.is("a root in an ASK", Due.ask(x, 0, "root vb"), 4);
         s.is("a root told ahead of the fold", Due.ask(x, 0, "root uc"), 4);
         s.is("WORDS between \" \"", Due.ask(x, 0, "\"va ub vb\""), 1);
+        x = Due.book("xv yv zv uv");
+        String roots = Due.times("root a of yv xv zv a;", 16) + "root v of xv yv zv uv;fold v to w;";
+        s.is("17 roots of four and a fold", Due.rules(x, roots), 18);
+        for (int f = 0; f < 4; f++) {
+            s.is("the ROOT of " + Due.letters(x, f), x.form(f, 4), f == 0 ? 16 : 0);
+        }
+    }
+
+    private void foldedAtEachPlace() {
+        s.of("RULES", "are FORMS, too (folded, the first 20 letters)");
+        for (int i = 0; i < 20; i++) {
+            String told = Due.times("a", i) + "v" + Due.times("a", 19 - i);
+            String due = told.replace('v', 'u');
+            WordPlaces x = Due.book(told, due, "b");
+            Due.rules(x, "stop " + told + ";root " + told + " of b " + told + ";fold v to u;");
+            s.are("FORMS with letter " + i + " folded", Due.allForms(x), i == 0 ? "b " + due : due + " b");
+            int f = Due.formOf(x, due);
+            s.is("a STOP", x.form(f, 3), 1);
+            s.is("one behind of", x.form(f, 4), 0);
+            for (String word : new String[] {told, due}) {
+                s.is("root " + word, Due.ask(x, 0, "root " + word), 3);
+                s.is("between \" \" " + word, Due.ask(x, 0, "\"" + word + "\""), 2);
+                s.is("rank of " + word, Due.put(x, word).rank(0), 2);
+                s.is("begins of " + word, Due.put(x, word).begins(), 1);
+                s.is("slip of " + word, Due.slip(x, 0, 0, word), 1);
+            }
+            Due.rules(x, "fold v to u;");
+            s.is("ask " + told, Due.ask(x, 0, told), 2);
+            s.is("ask " + due, Due.ask(x, 0, due), 2);
+        }
     }
 
     private void firstTwentyLetters() {

@@ -17,6 +17,7 @@ final class Sentences {
         "(?ms)^(?:([IV]+)\\. |  (RULES|FAULTS|SLOTS)\\b)(.*?)(?=^[IV]+\\. |^  (?:RULES|FAULTS|SLOTS)\\b|^```|\\z)");
 
     private final String name;
+    private final boolean listed;
     private final Map<String, String> sections = new LinkedHashMap<>();
     private final Map<String, BitSet> named = new LinkedHashMap<>();
     private String sentence = "";
@@ -25,8 +26,10 @@ final class Sentences {
     private int asked = 0;
     private int wrong = 0;
 
-    Sentences(String name, Path document) throws IOException {
+    /** If listed, each sentence is printed as it is named. */
+    Sentences(String name, Path document, boolean listed) throws IOException {
         this.name = name;
+        this.listed = listed;
         String text = Files.readString(document);
         Matcher promise = PROMISE.matcher(text);
         while (promise.find()) {
@@ -56,6 +59,9 @@ final class Sentences {
         endSentence();
         sentence = where + " \"" + quote + "\"";
         sentences++;
+        if (listed) {
+            System.out.println(sentence);
+        }
         String text = sections.getOrDefault(where, "");
         int at = text.indexOf(quote);
         if (at < 0) {

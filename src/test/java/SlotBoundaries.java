@@ -267,6 +267,21 @@ final class SlotBoundaries {
         s.is("300 WORDS", x.edition(0, 1), 300);
         s.is("the last SLIP", x.hand(3, 1), 1);
         s.is("a 41st LINE", x.line(0), -3);
+        x = new WordPlaces();
+        for (int i = 0; i < 40; i++) {
+            Due.line(x, 1, i == 39 ? "c d e" : "a b-");
+        }
+        s.is("WORDS of EDITION 1", x.edition(1, 1), 42);
+        x.keep(2);
+        for (int i = 0; i < 40; i++) {
+            Due.put(x, "q").right(1, i);
+        }
+        s.is("WORDS of others", x.edition(1, 1), 40);
+        x.back(2);
+        s.is("its WORDS again", x.edition(1, 1), 42);
+        s.is("one that is CUT", x.word(1, 1, 3), 1);
+        s.is("the last one's LINE", x.word(1, 41, 1), 39);
+        s.are("its letters", Due.letters(x, x.word(1, 41, 0)), "e");
     }
 
     private void imagesApart() {

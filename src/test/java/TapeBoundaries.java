@@ -182,6 +182,27 @@ final class TapeBoundaries {
         s.is("end(400) of 400", x.end(400), 400);
         s.is("end(0) of 400", x.end(0), 0);
         s.is("end(0) of an empty TAPE", x.end(0), 0);
+        s.is("rules() sees none behind", ended("stop a;stop b;", 7).rules(), 1);
+        s.is("nor the rest of a WORD", ended("stop ab;", 6).rules(), -4);
+        x = ended("a near 51", 8);
+        s.is("ask() sees none behind", x.ask(0), -4);
+        s.is("nor the rest of a number", x.fault(0), 1);
+        x = ended("abc", 2);
+        Due.line(x, 0, "");
+        s.is("line() sees none behind", x.form(0, 0), 2);
+        x = Due.book("a ab");
+        s.is("slip() sees none behind", cut(x, "ab", 1).slip(0, 0), 1);
+        s.is("rank() sees none behind", cut(x, "ab", 1).rank(0), 1);
+        s.is("begins() sees none behind", cut(x, "ab", 1).begins(), 2);
+    }
+
+    private static WordPlaces ended(String text, int n) {
+        return cut(new WordPlaces(), text, n);
+    }
+
+    private static WordPlaces cut(WordPlaces x, String text, int n) {
+        Due.put(x, text).end(n);
+        return x;
     }
 
     private void notSoMany() {
