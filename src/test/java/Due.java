@@ -78,8 +78,10 @@ final class Due {
     /** The PLACES that answered the latest ask(). */
     static String answered(WordPlaces x) {
         StringBuilder text = new StringBuilder();
-        for (int i = 0; x.answer(i, 0) >= 0; i++) {
-            text.append(i > 0 ? " " : "").append(x.answer(i, 0));
+        int place = x.answer(0, 0);
+        for (int i = 1; place >= 0; i++) {
+            text.append(i > 1 ? " " : "").append(place);
+            place = x.answer(i, 0);
         }
         return text.toString();
     }

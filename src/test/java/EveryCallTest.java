@@ -12,8 +12,6 @@ public final class EveryCallTest {
     private static final String[] TEXTS = {"", "a", "a b-", "stop a;order cba;", "root a of b;fold b to c;", "a near 2 b or root a",
         "((((((a))))))", "\"a b\"", "\u0000\u00ff", Due.times("a-", 30), Due.times("a or ", 31), Due.times("(", 40)};
     private static final int STATES = 4;
-    /** An object is used for 512 calls. */
-    private static final int CALLS = 200;
 
     private static int calls = 0;
     private static WordPlaces x;
@@ -44,7 +42,8 @@ public final class EveryCallTest {
             return;
         }
         for (String text : arguments.length > 2 ? new String[] {""} : TEXTS) {
-            if (calls++ % CALLS == 0) {
+            // An object is used for 512 calls, of which the making and each TAPE takes some.
+            if (calls++ % (text.isEmpty() && arguments.length > 2 ? 200 : 16) == 0) {
                 x = made(state);
             }
             if (!text.isEmpty()) {

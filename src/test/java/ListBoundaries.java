@@ -376,7 +376,8 @@ final class ListBoundaries {
     private void likenessIs(WordPlaces x, String call, int pairs, String want) {
         s.is("alike of " + call, x.alike(), pairs);
         StringBuilder text = new StringBuilder();
-        for (int p = 0; p < x.edition(0, 1); p++) {
+        int words = x.edition(0, 1);
+        for (int p = 0; p < words; p++) {
             text.append(p > 0 ? " " : "").append(x.matched(p));
         }
         s.are("matched of " + call, text.toString(), want);
