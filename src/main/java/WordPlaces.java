@@ -81,7 +81,7 @@ public final class WordPlaces {
 
     private void putNumber(int number) {
         for (int shift = 24; shift >= 0; shift -= 8) {
-            if (tapeLength < TAPE_BYTES) {
+            if (tapeLength >= 0 && tapeLength < TAPE_BYTES) {
                 tape[tapeLength] = (byte) (number >> shift);
                 tapeLength++;
             }
@@ -104,6 +104,11 @@ public final class WordPlaces {
 
     private static boolean isLetter(int sign) {
         return sign >= 'a' && sign <= 'z';
+    }
+
+    /** The letter (0 .. 25) on byte i of the first ones of the TAPE, or NONE. */
+    private int letterOn(int i, int length) {
+        return i >= 0 && i < length && i < TAPE_BYTES && isLetter(tape[i]) ? tape[i] - 'a' : NONE;
     }
 
     // RULES and LINES.
@@ -231,7 +236,7 @@ public final class WordPlaces {
             return NOTHING;
         }
         Words words = freshWords(edition);
-        if (p < 0 || p >= words.count) {
+        if (!words.has(p)) {
             return NOTHING;
         }
         switch (what) {
@@ -249,7 +254,7 @@ public final class WordPlaces {
 
     public int form(int f, int what) {
         Book fresh = freshBook();
-        if (f < 0 || f >= fresh.size || what < 0) {
+        if (!fresh.has(f) || what < 0) {
             return NOTHING;
         }
         long high = fresh.forms.high[f];
@@ -260,8 +265,8 @@ public final class WordPlaces {
         }
         switch (what) {
             case 0: return Key.lengthOf(high, low);
-            case 1: return fresh.wordsOf(0).often[f];
-            case 2: return fresh.wordsOf(1).often[f];
+            case 1: return fresh.wordsOf(0).oftenOf(f);
+            case 2: return fresh.wordsOf(1).oftenOf(f);
             case 3: return now.rules.isStop(high, low) ? 1 : 0;
             case 4: return now.rules.rootOf(high, low);
             default: return NOTHING;
@@ -270,7 +275,7 @@ public final class WordPlaces {
 
     public int ordered(int i) {
         Book fresh = freshBook();
-        return i >= 0 && i < fresh.size ? fresh.order[i] : NONE;
+        return fresh.has(i) ? fresh.order[i] : NONE;
     }
 
     // ASKS.
@@ -284,7 +289,7 @@ public final class WordPlaces {
     }
 
     public int answer(int i, int what) {
-        if (i < 0 || i >= asker.count) {
+        if (i < 0 || i >= asker.count || i >= PLACES) {
             return NOTHING;
         }
         switch (what) {
@@ -305,7 +310,7 @@ public final class WordPlaces {
     }
 
     private boolean isForm(int f) {
-        return f >= 0 && f < freshBook().size;
+        return freshBook().has(f);
     }
 
     public int pack(int edition, int f, int k) {
@@ -339,7 +344,7 @@ public final class WordPlaces {
     }
 
     public int share(int i) {
-        return i >= 0 && i < shareCount ? shareStarts[i] : NONE;
+        return i >= 0 && i < shareCount && i < SHARES ? shareStarts[i] : NONE;
     }
 
     // LIKENESS.
@@ -350,7 +355,7 @@ public final class WordPlaces {
 
     public int matched(int p) {
         Likeness fresh = freshLikeness();
-        return p >= 0 && p < book.wordsOf(0).count ? fresh.partners[p] : NONE;
+        return book.wordsOf(0).has(p) ? fresh.partners[p] : NONE;
     }
 
     private Likeness freshLikeness() {
@@ -380,15 +385,7 @@ public final class WordPlaces {
     }
 
     private boolean isOneWord(int length) {
-        if (length < 1 || length > FORM_LETTERS) {
-            return false;
-        }
-        for (int i = 0; i < length; i++) {
-            if (!isLetter(tape[i])) {
-                return false;
-            }
-        }
-        return true;
+        return length >= 1 && length <= FORM_LETTERS && lettersOnTape(length) == length;
     }
 
     private void readFolded(int from, int to) {
@@ -399,10 +396,8 @@ public final class WordPlaces {
     /** Makes the key of the letters that the TAPE has from one byte on up to another. */
     private void readLetters(int from, int to) {
         key.clear();
-        for (int i = from; i < to && i < TAPE_BYTES; i++) {
-            if (isLetter(tape[i])) {
-                key.add(tape[i] - 'a');
-            }
+        for (int i = from; i < to; i++) {
+            key.add(letterOn(i, to));
         }
     }
 
@@ -461,7 +456,7 @@ public final class WordPlaces {
         words.clearWorths();
         for (int i = 0; i < length; i++) {
             int from = i;
-            while (i < length && isLetter(tape[i])) {
+            while (i < length && letterOn(i, length) != NONE) {
                 i++;
             }
             if (i > from) {
@@ -470,7 +465,7 @@ public final class WordPlaces {
             }
         }
         rankedCount = 0;
-        for (int line = 0; line < now.lineCount(edition); line++) {
+        for (int line = 0; line < now.lineCount(edition) && line < LINES; line++) {
             if (words.worths[line] > 0) {
                 insertRanked(line, words.worths[line]);
             }
@@ -480,7 +475,7 @@ public final class WordPlaces {
 
     /** LINES come in by their numbers, so a LINE goes behind those that are worth as much. */
     private void insertRanked(int line, int worth) {
-        if (rankedCount >= LINES) {
+        if (rankedCount < 0 || rankedCount >= LINES) {
             return;
         }
         int at = rankedCount;
@@ -495,7 +490,7 @@ public final class WordPlaces {
     }
 
     public int ranked(int i, int what) {
-        if (i < 0 || i >= rankedCount) {
+        if (i < 0 || i >= rankedCount || i >= LINES) {
             return NOTHING;
         }
         if (what == 0) {
@@ -527,8 +522,8 @@ public final class WordPlaces {
 
     private int lettersOnTape(int length) {
         int sum = 0;
-        for (int i = 0; i < length && i < TAPE_BYTES; i++) {
-            sum += isLetter(tape[i]) ? 1 : 0;
+        for (int i = 0; i < length; i++) {
+            sum += letterOn(i, length) != NONE ? 1 : 0;
         }
         return sum;
     }
@@ -546,10 +541,10 @@ public final class WordPlaces {
         Words words = freshWords(edition);
         Arrays.fill(pages, NONE);
         int row = 0;
-        for (int i = 0; i < book.size; i++) {
+        for (int i = 0; i < book.size && i < FORMS; i++) {
             int f = book.order[i];
-            if (words.often[f] > 0 && !now.rules.isStop(book.forms.high[f], book.forms.low[f])) {
-                int rows = 1 + (words.often[f] + PLACES_A_ROW - 1) / PLACES_A_ROW;
+            int rows = rowsOf(words, f);
+            if (rows > 0 && book.has(f)) {
                 int used = row % n;
                 if (used > 0 && used + rows > n) {
                     row += n - used;
@@ -559,6 +554,14 @@ public final class WordPlaces {
             }
         }
         return (row + n - 1) / n;
+    }
+
+    /** How many rows of the PAGES a FORM takes: none if it is not printed. */
+    private int rowsOf(Words words, int f) {
+        if (!book.has(f) || words.often[f] <= 0 || now.rules.isStop(book.forms.high[f], book.forms.low[f])) {
+            return 0;
+        }
+        return 1 + (words.often[f] + PLACES_A_ROW - 1) / PLACES_A_ROW;
     }
 
     public int page(int f) {
@@ -655,7 +658,7 @@ public final class WordPlaces {
             length = 0;
         }
 
-        /** A letter is 0 .. 25; those behind the twentieth are no part of a FORM. */
+        /** What is no letter (0 .. 25) is left out, and so are those behind the twentieth. */
         void add(int letter) {
             if (length >= FORM_LETTERS || letter < 0 || letter >= LETTERS) {
                 return;
@@ -891,6 +894,14 @@ public final class WordPlaces {
             return isEdition(edition) ? lineCounts[edition] : 0;
         }
 
+        int lengthAt(int at) {
+            return at >= 0 && at < EDITIONS * LINES ? lengths[at] : 0;
+        }
+
+        int byteAt(int at) {
+            return at >= 0 && at < BYTES ? bytes[at] : ' ';
+        }
+
         void putLine(int edition, int i, byte[] text, int length) {
             if (!isEdition(edition) || i < 0 || i >= LINES || length < 0 || length > LINE_BYTES || length > text.length) {
                 return;
@@ -996,6 +1007,10 @@ public final class WordPlaces {
         final byte[] worthTold = new byte[FORMS];
         private final Key key = new Key();
 
+        boolean has(int p) {
+            return p >= 0 && p < count && p < PLACES;
+        }
+
         void cutOut(Image image, int edition) {
             count = 0;
             Arrays.fill(begunIn, 0);
@@ -1008,15 +1023,15 @@ public final class WordPlaces {
         /** Cuts a LINE; goesOn: the latest WORD goes on with the next RUN; cutLast: so will this LINE's last. */
         private boolean cutLine(Image image, int edition, int line, boolean goesOn, boolean cutLast) {
             int at = (edition * LINES + line) * LINE_BYTES;
-            int end = at + image.lengths[edition * LINES + line];
+            int end = at + image.lengthAt(edition * LINES + line);
             boolean open = goesOn;
             while (at < end) {
-                if (isLetter(image.bytes[at])) {
+                if (isLetter(image.byteAt(at))) {
                     if (!open) {
                         beginWord(line);
                     }
-                    while (at < end && isLetter(image.bytes[at])) {
-                        key.add(image.bytes[at] - 'a');
+                    while (at < end && isLetter(image.byteAt(at))) {
+                        key.add(image.byteAt(at) - 'a');
                         at++;
                     }
                     // The last RUN alone stands right ahead of a last byte.
@@ -1031,7 +1046,7 @@ public final class WordPlaces {
 
         private void beginWord(int line) {
             key.clear();
-            if (count < PLACES && line >= 0 && line < LINES) {
+            if (count >= 0 && count < PLACES && line >= 0 && line < LINES) {
                 lines[count] = line;
                 ordinals[count] = begunIn[line];
                 cuts[count] = 0;
@@ -1075,7 +1090,7 @@ public final class WordPlaces {
         private void fillLists() {
             for (int p = Math.min(count, PLACES) - 1; p >= 0; p--) {
                 int f = forms[p];
-                if (f >= 0 && f < FORMS && starts[f] > 0) {
+                if (f >= 0 && f < FORMS && starts[f] > 0 && starts[f] <= PLACES) {
                     starts[f]--;
                     listed[starts[f]] = p;
                 }
@@ -1091,7 +1106,8 @@ public final class WordPlaces {
             if (f < 0 || f >= FORMS || i < 0 || i >= often[f]) {
                 return NONE;
             }
-            return listed[starts[f] + i];
+            int at = starts[f] + i;
+            return at >= 0 && at < PLACES ? listed[at] : NONE;
         }
 
         /** Bits of a FORM's LIST, packed by k. */
@@ -1135,7 +1151,7 @@ public final class WordPlaces {
         private int handsNeeded(int from, int lineEnd, int most) {
             int hands = from < lineEnd ? 1 : 0;
             int sum = 0;
-            for (int line = from; line < lineEnd; line++) {
+            for (int line = Math.max(0, from); line < lineEnd && line < LINES; line++) {
                 if (begunIn[line] > most) {
                     return LINES + 1;
                 }
@@ -1182,7 +1198,7 @@ public final class WordPlaces {
             return sum;
         }
 
-        private int lineOfPlace(int p) {
+        int lineOfPlace(int p) {
             return p >= 0 && p < PLACES ? lines[p] : NONE;
         }
     }
@@ -1199,6 +1215,10 @@ public final class WordPlaces {
 
         Words wordsOf(int edition) {
             return edition == 0 ? first : second;
+        }
+
+        boolean has(int f) {
+            return f >= 0 && f < size && f < FORMS;
         }
 
         void refresh(Image image) {
@@ -1234,14 +1254,16 @@ public final class WordPlaces {
                 long low = Key.mapped(forms.low[f], rank);
                 int found = orderKeys.find(f, high, low);
                 int at = found < 0 ? -1 - found : found;
-                orderKeys.insert(f, at, high, low);
-                System.arraycopy(order, at, order, at + 1, f - at);
-                order[at] = f;
+                if (at >= 0 && at <= f) {
+                    orderKeys.insert(f, at, high, low);
+                    System.arraycopy(order, at, order, at + 1, f - at);
+                    order[at] = f;
+                }
             }
         }
 
         boolean beginsWith(int f, Key key) {
-            if (f < 0 || f >= FORMS) {
+            if (!has(f)) {
                 return false;
             }
             long highBits = Key.firstBits(key.length);
@@ -1285,22 +1307,27 @@ public final class WordPlaces {
             return false;
         }
 
+        /** The byte that comes next, or NONE, which is no letter, digit or sign. */
+        private int byteAhead() {
+            return next >= 0 && next < length && next < bytes.length ? bytes[next] : NONE;
+        }
+
         void advance() {
-            while (next < length && (bytes[next] == ' ' || bytes[next] == '\n')) {
+            while (next < length && (byteAhead() == ' ' || byteAhead() == '\n')) {
                 next++;
             }
             start = next;
+            int sign = byteAhead();
             if (next >= length) {
                 kind = END;
-            } else if (isLetter(bytes[next])) {
+            } else if (isLetter(sign)) {
                 kind = WORD;
-                while (next < length && isLetter(bytes[next])) {
+                while (next < length && isLetter(byteAhead())) {
                     next++;
                 }
-            } else if (isDigit(bytes[next])) {
+            } else if (isDigit(sign)) {
                 readNumber();
             } else {
-                int sign = bytes[next];
                 kind = sign == ';' || sign == '(' || sign == ')' || sign == '"' ? sign : NO_TOKEN;
                 next++;
             }
@@ -1314,8 +1341,8 @@ public final class WordPlaces {
         private void readNumber() {
             kind = NUMBER;
             number = 0;
-            while (next < length && isDigit(bytes[next])) {
-                number = Math.min(1000, number * 10 + bytes[next] - '0');
+            while (next < length && isDigit(byteAhead())) {
+                number = Math.min(1000, number * 10 + byteAhead() - '0');
                 next++;
             }
         }
@@ -1325,7 +1352,7 @@ public final class WordPlaces {
                 return false;
             }
             for (int i = 0; i < text.length(); i++) {
-                if (bytes[start + i] != text.charAt(i)) {
+                if (letterAt(i) != text.charAt(i) - 'a') {
                     return false;
                 }
             }
@@ -1338,7 +1365,7 @@ public final class WordPlaces {
 
         int letterAt(int i) {
             int at = start + i;
-            return i >= 0 && at < next && at < bytes.length ? bytes[at] - 'a' : NONE;
+            return i >= 0 && at >= 0 && at < next && at < bytes.length ? bytes[at] - 'a' : NONE;
         }
 
         /** The only letter of a word of one letter, else NONE. */
@@ -1564,7 +1591,7 @@ public final class WordPlaces {
 
         private void putDown(byte[] found) {
             count = 0;
-            for (int p = 0; p < words.count && p < PLACES; p++) {
+            for (int p = 0; words.has(p) && p < found.length && count < PLACES; p++) {
                 if (found[p] == 1) {
                     places[count] = p;
                     lines[count] = words.lines[p];
@@ -1737,9 +1764,9 @@ public final class WordPlaces {
         }
 
         private void work(int operator, int away, byte[] left, byte[] right) {
-            int size = Math.min(words.count, Math.min(left.length, right.length));
+            int size = Math.min(words.count, PLACES);
             if (operator == OR) {
-                for (int p = 0; p < size; p++) {
+                for (int p = 0; p < size && p < left.length && p < right.length; p++) {
                     left[p] |= right[p];
                 }
                 return;
@@ -1754,7 +1781,7 @@ public final class WordPlaces {
                 markAhead(right, away, size);
             }
             int wanted = operator == FAR || operator == BUT ? 0 : 1;
-            for (int p = 0; p < size && p < PLACES; p++) {
+            for (int p = 0; p < size && p < PLACES && p < left.length; p++) {
                 if (close[p] != wanted) {
                     left[p] = 0;
                 }
@@ -1764,20 +1791,24 @@ public final class WordPlaces {
         /** Marks the PLACES whose LINE has one of the row's. */
         private void markSameLine(byte[] right, int size) {
             Arrays.fill(lineHas, (byte) 0);
-            for (int p = 0; p < size && p < PLACES; p++) {
-                if (right[p] == 1) {
-                    lineHas[words.lines[p]] = 1;
+            for (int p = 0; p < size && p < right.length; p++) {
+                int line = words.lineOfPlace(p);
+                if (line >= 0 && line < LINES && right[p] == 1) {
+                    lineHas[line] = 1;
                 }
             }
             for (int p = 0; p < size && p < PLACES; p++) {
-                close[p] = lineHas[words.lines[p]];
+                int line = words.lineOfPlace(p);
+                if (line >= 0 && line < LINES) {
+                    close[p] = lineHas[line];
+                }
             }
         }
 
         /** Marks the PLACES behind which one of the row's stands, not too far away. */
         private void markBehind(byte[] right, int away, int size) {
             int found = NONE;
-            for (int p = Math.min(size, PLACES) - 1; p >= 0; p--) {
+            for (int p = Math.min(size, Math.min(PLACES, right.length)) - 1; p >= 0; p--) {
                 if (found != NONE && found - p <= away) {
                     close[p] = 1;
                 }
@@ -1787,7 +1818,7 @@ public final class WordPlaces {
 
         private void markAhead(byte[] right, int away, int size) {
             int found = NONE;
-            for (int p = 0; p < size && p < PLACES; p++) {
+            for (int p = 0; p < size && p < PLACES && p < right.length; p++) {
                 if (found != NONE && p - found <= away) {
                     close[p] = 1;
                 }
@@ -1824,6 +1855,9 @@ public final class WordPlaces {
 
         private void fillRow(int p, int f, Words second) {
             int size = Math.min(second.count, PLACES);
+            if (p < 0 || p >= PLACES || size < 0) {
+                return;
+            }
             here[size] = 0;
             for (int q = size - 1; q >= 0; q--) {
                 if (second.forms[q] == f) {
@@ -1899,7 +1933,7 @@ public final class WordPlaces {
         }
 
         boolean put(int slot, int i, long v) {
-            if (isEmpty(slot) || i < 0 || i >= sizes[slot]) {
+            if (!isSlot(slot) || i < 0 || i >= sizes[slot] || i >= NUMBERS) {
                 return false;
             }
             numbers[slot * NUMBERS + i] = cut(v, widths[slot]);
@@ -1925,18 +1959,17 @@ public final class WordPlaces {
         }
 
         private boolean hasAll(int slot, int i, int n) {
-            return !isEmpty(slot) && i >= 0 && n >= 0 && i <= sizes[slot] && n <= sizes[slot] - i;
+            int size = isSlot(slot) ? Math.min(sizes[slot], NUMBERS) : NONE;
+            return i >= 0 && n >= 0 && i <= size && n <= size - i;
         }
 
         /** Puts a row's numbers into the bytes; answers how many. */
         int takeBytes(int slot) {
-            if (isEmpty(slot)) {
-                return 0;
-            }
-            for (int i = 0; i < sizes[slot] && i < NUMBERS; i++) {
+            int size = isEmpty(slot) ? 0 : Math.min(sizes[slot], NUMBERS);
+            for (int i = 0; i < size; i++) {
                 bytes[i] = (byte) numbers[slot * NUMBERS + i];
             }
-            return sizes[slot];
+            return size;
         }
     }
 }
